@@ -70,7 +70,9 @@ public final class ThreePlates {
         shop.become(spareShop);
         bench.begin(shop);
         plan.count = 0;
-        Arrays.fill(kept, false);
+        for (int box = 0; box < BOXES; box++) {
+            kept[box] = false;
+        }
         dots.forgetSights();
         changed();
         return shop.plates;
@@ -111,7 +113,7 @@ public final class ThreePlates {
             return NONE;
         }
         laying.put(bench, a, b, turn, u, v);
-        return what == 0 ? laying.countReds() : laying.pairs;
+        return what == 0 ? Integer.bitCount(laying.reds(laying.lower)) : laying.pairs;
     }
 
     public int gap(int a, int b, int turn, int u, int v, int cell, int part) {
@@ -165,15 +167,16 @@ public final class ThreePlates {
         if (!isPart(part) || !shop.hasPlate(plate)) {
             return NONE;
         }
-        laying.settlePlate(bench, plate, 1);
-        return (int) lowest(laying.resting.most, laying.resting.den, part);
+        laying.loadPlate(bench, plate, 1);
+        laying.resting.settle();
+        return (int) lowest(laying.resting.mostGap(), laying.resting.den, part);
     }
 
     public int flat(int n) {
         if (!isOff(n)) {
             return NONE;
         }
-        return trials.areAllFlat(bench, n) ? 1 : 0;
+        return trials.areAllFlat(n) ? 1 : 0;
     }
 
     public boolean warm(int plate, int cell, int n) {
@@ -204,7 +207,8 @@ public final class ThreePlates {
             return NONE;
         }
         for (int i = 0; i < plan.count; i++) {
-            laying.putRound(bench, plan.rounds[i]);
+            Round round = plan.rounds[i];
+            laying.put(bench, round.lower, round.upper, round.turn, round.u, round.v);
             if (!laying.resting.isWithin(shop.red)) {
                 return 0;
             }
@@ -220,14 +224,11 @@ public final class ThreePlates {
     }
 
     public int best(int m, int n) {
-        if (!findBest(m, n)) {
-            return NONE;
-        }
-        return trials.bestIron;
+        return trials.findBest(m, n) ? trials.bestIron : NONE;
     }
 
     public int bestRound(int m, int n, int j) {
-        if (j < 0 || j >= m || j >= MOST_ROW || !findBest(m, n)) {
+        if (j < 0 || j >= m || j >= MOST_ROW || !trials.findBest(m, n)) {
             return NONE;
         }
         return trials.bestRow[j];
@@ -237,7 +238,8 @@ public final class ThreePlates {
         if (!isPart(part) || !shop.hasPlate(plate)) {
             return NONE;
         }
-        laying.settlePlate(bench, plate, -1);
+        laying.loadPlate(bench, plate, -1);
+        laying.resting.settle();
         return lowest(laying.resting.allGaps(), laying.resting.den, part);
     }
 
@@ -245,8 +247,9 @@ public final class ThreePlates {
         if (!isPart(part) || !shop.hasPlate(plate) || i < 0 || i >= shop.size) {
             return NONE;
         }
-        laying.settleEdge(bench, plate, row, i);
-        return (int) lowest(laying.resting.most, laying.resting.den, part);
+        laying.loadEdge(bench, plate, row, i);
+        laying.resting.settleLine();
+        return (int) lowest(laying.resting.mostGap(), laying.resting.den, part);
     }
 
     public int square(int ab, int bc, int ca, int which, int part) {
@@ -407,14 +410,6 @@ public final class ThreePlates {
     private void changed() {
         trials.bestIsFresh = false;
         dots.forgetFitting();
-    }
-
-    private boolean findBest(int m, int n) {
-        if (m < 1 || m > MOST_ROW || !isOff(n) || plan.count == 0) {
-            return false;
-        }
-        trials.findBest(m, n);
-        return trials.bestIron != NONE;
     }
 
     private boolean canLie(int a, int b, int turn, int u, int v) {
@@ -967,7 +962,7 @@ public final class ThreePlates {
             takeFrom(at, deep);
             strokes++;
             // without slip nothing may be drawn
-            if (slip > 0 && draw(8) < slip) {
+            if (slip > 0 && draw() < slip) {
                 takeFrom(at, 1);
                 if (cell % size < size - 1 && height[at + 1] >= LOWEST) {
                     takeFrom(at + 1, 1);
@@ -981,28 +976,31 @@ public final class ThreePlates {
             iron += much;
         }
 
-        private int draw(int n) {
+        private int draw() {
             w = w * 1103515245 + 12345;
-            return (w >>> 16) % n;
+            return (w >>> 16) % 8;
         }
     }
 
     /** A plane that rests on cells, and the gaps below it, all over one lower part. */
     private static final class Resting {
+        static final int CORNERS = 3;
+        // three of 25 cells: a row of exchanges never comes to one triangle twice
+        static final int MOST_TRIANGLES = 2300;
+
         private final int[] xs = new int[MOST_CELLS];
         private final int[] ys = new int[MOST_CELLS];
         private final int[] sums = new int[MOST_CELLS];
+        private final int[] corners = new int[CORNERS];
         final int[] gaps = new int[MOST_CELLS];
         private int count;
         private int totalX;
         private int totalY;
-        // the plane through three cells: height base at the first, slopes a / den and b / den
-        private int first;
+        // the plane is (base + slopeX * x + slopeY * y) / den
+        private int base;
         private int slopeX;
         private int slopeY;
-        private int det;
-        int den;
-        int most;
+        int den = 1;
 
         void begin() {
             count = 0;
@@ -1022,6 +1020,14 @@ public final class ThreePlates {
             count++;
         }
 
+        int mostGap() {
+            int most = 0;
+            for (int k = 0; k < count; k++) {
+                most = Math.max(most, gaps[k]);
+            }
+            return most;
+        }
+
         long allGaps() {
             long all = 0;
             for (int k = 0; k < count; k++) {
@@ -1031,30 +1037,32 @@ public final class ThreePlates {
         }
 
         boolean isWithin(int n) {
-            return most <= n * den;
+            return mostGap() <= n * den;
         }
 
-        /** Finds the plane and the gaps below it. */
+        /**
+         * Finds the plane over cells that make up a rectangle, two by two at least. To try all threes would do;
+         * instead a triangle below the middle climbs: a cell above its plane comes in for one of its corners, the
+         * first such cell and of like corners the first, so that it never comes back to where it was (Bland).
+         */
         void settle() {
-            int bestUp = 0;
-            int bestDown = 0;
-            for (int i = 0; i < count; i++) {
-                for (int j = i + 1; j < count; j++) {
-                    for (int k = j + 1; k < count; k++) {
-                        if (!span(i, j, k)) {
-                            continue;
-                        }
-                        int up = overMiddle();
-                        if (bestDown != 0 && up * bestDown >= bestUp * det) {
-                            continue;
-                        }
-                        if (isAboveAll()) {
-                            bestUp = up;
-                            bestDown = det;
-                            keepGaps();
-                        }
-                    }
+            if (count <= CORNERS) {
+                return;
+            }
+            corners[0] = 0;
+            corners[1] = 1;
+            corners[2] = count - 1;
+            for (int step = 0; step < MOST_TRIANGLES; step++) {
+                span(corners[0], corners[1], corners[2]);
+                int above = firstAbove();
+                if (above == NONE) {
+                    break;
                 }
+                exchange(above);
+            }
+            // a plane as low over the middle touches all corners that hold it: if three do, there is no other
+            if (holder(0) != NONE && holder(2) == NONE) {
+                chooseAmongLike(holder(0), holder(1));
             }
         }
 
@@ -1064,71 +1072,143 @@ public final class ThreePlates {
             int jy = ys[j] - ys[i];
             int kx = xs[k] - xs[i];
             int ky = ys[k] - ys[i];
-            det = jx * ky - kx * jy;
+            int det = jx * ky - kx * jy;
             if (det == 0) {
                 return false;
             }
-            int js = sums[j] - sums[i];
-            int ks = sums[k] - sums[i];
+            int sign = det < 0 ? -1 : 1;
+            int js = sign * (sums[j] - sums[i]);
+            int ks = sign * (sums[k] - sums[i]);
+            den = sign * det;
             slopeX = js * ky - ks * jy;
             slopeY = jx * ks - kx * js;
-            first = i;
-            if (det < 0) {
-                det = -det;
-                slopeX = -slopeX;
-                slopeY = -slopeY;
-            }
+            base = sums[i] * den - slopeX * xs[i] - slopeY * ys[i];
             return true;
         }
 
-        /** How high the plane is over the middle, times det and count. */
-        private int overMiddle() {
-            return count * sums[first] * det + slopeX * (totalX - count * xs[first])
-                    + slopeY * (totalY - count * ys[first]);
-        }
-
-        /** How far the plane lies above a cell's sum, times det. */
-        private int gapAt(int k) {
-            return (sums[first] - sums[k]) * det + slopeX * (xs[k] - xs[first]) + slopeY * (ys[k] - ys[first]);
-        }
-
-        private boolean isAboveAll() {
+        /** Reckons the gaps, up to the first cell that stands above the plane: that cell. */
+        private int firstAbove() {
             for (int k = 0; k < count; k++) {
-                if (gapAt(k) < 0) {
-                    return false;
+                gaps[k] = base + slopeX * xs[k] + slopeY * ys[k] - sums[k] * den;
+                if (gaps[k] < 0) {
+                    return k;
                 }
             }
-            return true;
+            return NONE;
         }
 
-        private void keepGaps() {
-            den = det;
-            most = 0;
-            for (int k = 0; k < count; k++) {
-                gaps[k] = gapAt(k);
-                most = Math.max(most, gaps[k]);
+        /** Puts a cell in place of that corner without which the triangle still lies below the middle. */
+        private void exchange(int cell) {
+            int out = NONE;
+            int outCell = 0;
+            int outMiddle = 0;
+            for (int i = 0; i < CORNERS; i++) {
+                int ofCell = weight(i, xs[cell], ys[cell], 1);
+                if (ofCell <= 0) {
+                    continue;
+                }
+                int ofMiddle = weight(i, totalX, totalY, count);
+                int order = Integer.compare(ofMiddle * outCell, outMiddle * ofCell);
+                if (out == NONE || order < 0 || order == 0 && corners[i] < corners[out]) {
+                    out = i;
+                    outCell = ofCell;
+                    outMiddle = ofMiddle;
+                }
+            }
+            if (out != NONE) {
+                corners[out] = cell;
             }
         }
 
-        /** As settle, for cells in one line along x: a line through two of them. */
+        /** What a corner weighs if the point x / times, y / times hangs by the three; 0 or less: it does not hold it. */
+        private int weight(int corner, int x, int y, int times) {
+            int a = corners[(corner + 1) % CORNERS];
+            int b = corners[(corner + 2) % CORNERS];
+            return times * (xs[a] * ys[b] - xs[b] * ys[a]) + y * (xs[b] - xs[a]) - x * (ys[b] - ys[a]);
+        }
+
+        /** The n-th corner (from 0) without which the triangle would not lie below the middle. */
+        private int holder(int n) {
+            int found = 0;
+            for (int i = 0; i < CORNERS; i++) {
+                if (weight(i, totalX, totalY, count) > 0) {
+                    if (found == n) {
+                        return corners[i];
+                    }
+                    found++;
+                }
+            }
+            return NONE;
+        }
+
+        /** Of all planes that touch p, and q if there is one, and lie above all: that with the first three cells. */
+        private void chooseAmongLike(int p, int q) {
+            int least = Integer.MAX_VALUE;
+            int second = corners[0];
+            int third = corners[1];
+            int last = q == NONE ? count - 1 : q;
+            for (int j = q == NONE ? 0 : q; j <= last; j++) {
+                for (int k = q == NONE ? j + 1 : 0; k < count; k++) {
+                    if (span(p, j, k) && firstAbove() == NONE && firstTouched() < least) {
+                        least = firstTouched();
+                        second = j;
+                        third = k;
+                    }
+                }
+            }
+            span(p, second, third);
+            firstAbove();
+        }
+
+        /** The first three cells not in one line that the plane touches, as one number to compare by. */
+        private int firstTouched() {
+            int i = NONE;
+            int j = NONE;
+            for (int k = 0; k < count; k++) {
+                if (gaps[k] != 0) {
+                    continue;
+                }
+                if (i == NONE) {
+                    i = k;
+                } else if (j == NONE) {
+                    j = k;
+                } else if ((xs[j] - xs[i]) * (ys[k] - ys[i]) != (xs[k] - xs[i]) * (ys[j] - ys[i])) {
+                    return (i * MOST_CELLS + j) * MOST_CELLS + k;
+                }
+            }
+            return Integer.MAX_VALUE;
+        }
+
+        /** As settle, for cells one behind the other along x: a line through two of them. */
         void settleLine() {
+            int second = NONE;
+            int first = NONE;
             int bestUp = 0;
             int bestDown = 0;
             for (int i = 0; i < count; i++) {
                 for (int j = i + 1; j < count; j++) {
-                    first = i;
-                    det = xs[j] - xs[i];
-                    slopeX = sums[j] - sums[i];
-                    slopeY = 0;
-                    int up = overMiddle();
-                    boolean lower = bestDown == 0 || up * bestDown < bestUp * det;
-                    if (lower && isAboveAll()) {
+                    stretch(i, j);
+                    int up = base * count + slopeX * totalX;
+                    boolean lower = first == NONE || up * bestDown < bestUp * den;
+                    if (lower && firstAbove() == NONE) {
+                        first = i;
+                        second = j;
                         bestUp = up;
-                        bestDown = det;
-                        keepGaps();
+                        bestDown = den;
                     }
                 }
             }
+            if (first != NONE) {
+                stretch(first, second);
+                firstAbove();
+            }
+        }
+
+        private void stretch(int i, int j) {
+            den = xs[j] - xs[i];
+            slopeX = sums[j] - sums[i];
+            slopeY = 0;
+            base = sums[i] * den - slopeX * xs[i];
         }
     }
 
@@ -1151,11 +1231,8 @@ public final class ThreePlates {
             match(turn, u, v);
             bench.copySeems(a, shop.cells(), below);
             bench.copySeems(b, shop.cells(), above);
-            settlePairs();
-        }
-
-        void putRound(Bench bench, Round round) {
-            put(bench, round.lower, round.upper, round.turn, round.u, round.v);
+            loadPairs();
+            resting.settle();
         }
 
         /** Finds the pairs of cells that lie on one another, by the numbers of the lower ones. */
@@ -1193,40 +1270,36 @@ public final class ThreePlates {
             return inside ? shop.size * y + x : NONE;
         }
 
-        /** Lets what lies above rest on what lies below. */
-        void settlePairs() {
+        void loadPairs() {
             resting.begin();
             for (int pair = 0; pair < pairs; pair++) {
                 int cell = lower[pair];
                 resting.add(cell % shop.size, cell / shop.size, below[cell] + above[upper[pair]]);
             }
-            resting.settle();
         }
 
-        /** A plate alone by its heights (sign 1), or turned about (sign -1). */
-        void settlePlate(Bench bench, int plate, int sign) {
-            for (int cell = 0; cell < shop.cells(); cell++) {
-                below[cell] = sign * bench.height[plate * MOST_CELLS + cell];
-            }
-            settleBelow();
-        }
-
-        /** What lies below, alone. */
-        void settleBelow() {
+        /** A plate alone by its heights, or (sign -1) by its heights turned about. */
+        void loadPlate(Bench bench, int plate, int sign) {
             resting.begin();
             for (int cell = 0; cell < shop.cells(); cell++) {
-                resting.add(cell % shop.size, cell / shop.size, below[cell]);
+                int height = bench.height[plate * MOST_CELLS + cell];
+                resting.add(cell % shop.size, cell / shop.size, sign * height);
             }
-            resting.settle();
         }
 
-        void settleEdge(Bench bench, int plate, boolean row, int i) {
+        void loadAlone(int[] heights) {
+            resting.begin();
+            for (int cell = 0; cell < shop.cells(); cell++) {
+                resting.add(cell % shop.size, cell / shop.size, heights[cell]);
+            }
+        }
+
+        void loadEdge(Bench bench, int plate, boolean row, int i) {
             resting.begin();
             for (int k = 0; k < shop.size; k++) {
                 int cell = row ? shop.size * i + k : shop.size * k + i;
                 resting.add(k, 0, bench.height[plate * MOST_CELLS + cell]);
             }
-            resting.settleLine();
         }
 
         int pairOverLower(int cell) {
@@ -1238,35 +1311,25 @@ public final class ThreePlates {
             return NONE;
         }
 
-        private boolean isRed(int pair) {
-            return resting.gaps[pair] <= shop.red * resting.den;
-        }
-
-        int countReds() {
-            return Integer.bitCount(reds(lower));
-        }
-
         /** The red cells as bits, by the numbers of the lower or of the upper ones. */
         int reds(int[] cells) {
             int bits = 0;
             for (int pair = 0; pair < pairs; pair++) {
-                if (isRed(pair)) {
+                if (resting.gaps[pair] <= shop.red * resting.den) {
                     bits |= 1 << cells[pair];
                 }
             }
             return bits;
         }
 
-        /** The red cells of the plate that a round scrapes. */
-        int redsToScrape(Bench bench, Round round) {
-            putRound(bench, round);
+        int redsToScrape(Round round) {
             return reds(round.scraped == round.upper ? upper : lower);
         }
 
         /** Does a round: how many strokes that was. */
         int scrape(Bench bench, Round round) {
-            int bits = redsToScrape(bench, round);
-            return scrapeCells(bench, round.scraped, bits, round.deep, shop.slip);
+            put(bench, round.lower, round.upper, round.turn, round.u, round.v);
+            return scrapeCells(bench, round.scraped, redsToScrape(round), round.deep, shop.slip);
         }
 
         int scrapeCells(Bench bench, int plate, int bits, int deep, int slip) {
@@ -1311,20 +1374,20 @@ public final class ThreePlates {
         }
 
         private boolean isFlat(Bench on, int plate, int n) {
-            laying.settlePlate(on, plate, 1);
+            laying.loadPlate(on, plate, 1);
+            laying.resting.settle();
             return laying.resting.isWithin(n);
         }
 
-        boolean areAllFlat(Bench on, int n) {
+        boolean areAllFlat(int n) {
             for (int plate = 0; plate < shop.plates; plate++) {
-                if (!isFlat(on, plate, n)) {
+                if (!isFlat(bench, plate, n)) {
                     return false;
                 }
             }
             return true;
         }
 
-        /** Looks at each plate as it is now; only scraping changes that. */
         private void lookForFlat(int n) {
             for (int plate = 0; plate < shop.plates; plate++) {
                 flatNow[plate] = isFlat(bench, plate, n);
@@ -1350,23 +1413,27 @@ public final class ThreePlates {
                 }
                 Round round = plan.roundAfter(done);
                 laying.scrape(on, round);
+                // no other plate's heights are changed by a round
                 flatNow[round.scraped] = isFlat(on, round.scraped, n);
             }
             return isEachFlat() ? MOST_RUN : NONE;
         }
 
-        /** The row of so many rounds that takes least iron, and that iron, NONE if there is none. */
-        void findBest(int length, int n) {
-            if (bestIsFresh && bestLength == length && bestLimit == n) {
-                return;
+        /** The row of so many rounds that takes least iron: false if there is none. */
+        boolean findBest(int length, int n) {
+            if (length < 1 || length > MOST_ROW || !isOff(n) || plan.count == 0) {
+                return false;
             }
-            bestIsFresh = true;
-            bestLength = length;
-            bestLimit = n;
-            bestIron = NONE;
-            lookForFlat(n);
-            tries[0].become(bench);
-            tryRows(0);
+            if (!bestIsFresh || bestLength != length || bestLimit != n) {
+                bestIsFresh = true;
+                bestLength = length;
+                bestLimit = n;
+                bestIron = NONE;
+                lookForFlat(n);
+                tries[0].become(bench);
+                tryRows(0);
+            }
+            return bestIron != NONE;
         }
 
         private void tryRows(int depth) {
@@ -1379,7 +1446,7 @@ public final class ThreePlates {
                 laying.scrape(on, plan.rounds[i]);
                 row[depth] = i;
                 int iron = on.iron - bench.iron;
-                // iron only grows, and of like rows the first one counts
+                // iron never gets less, and of like rows the first one counts
                 if (bestIron != NONE && iron >= bestIron) {
                     continue;
                 }
@@ -1418,14 +1485,16 @@ public final class ThreePlates {
 
         /** The deep by which the scraped plate is least off behind the round. */
         void findDeepest(Round round) {
-            int bits = laying.redsToScrape(bench, round);
+            laying.put(bench, round.lower, round.upper, round.turn, round.u, round.v);
+            int bits = laying.redsToScrape(round);
             deepestDeep = 0;
             for (int deep = 1; deep <= MOST_DEEP; deep++) {
                 Bench on = tries[0];
                 on.become(bench);
                 laying.scrapeCells(on, round.scraped, bits, deep, 0);
-                laying.settlePlate(on, round.scraped, 1);
-                int up = laying.resting.most;
+                laying.loadPlate(on, round.scraped, 1);
+                laying.resting.settle();
+                int up = laying.resting.mostGap();
                 int down = laying.resting.den;
                 if (deepestDeep == 0 || up * deepestDown < deepestUp * down) {
                     deepestDeep = deep;
@@ -1460,7 +1529,9 @@ public final class ThreePlates {
         }
 
         int rank() {
-            Arrays.fill(hasRow, false);
+            for (int column = 0; column < MOST_UNKNOWNS; column++) {
+                hasRow[column] = false;
+            }
             int rank = 0;
             for (int i = 0; i < plan.count; i++) {
                 Round round = plan.rounds[i];
@@ -1685,7 +1756,8 @@ public final class ThreePlates {
         /** The red cells below a world, as laying has been matched. */
         private int redsOf(int number) {
             fill(number, laying.above);
-            laying.settlePairs();
+            laying.loadPairs();
+            laying.resting.settle();
             return laying.reds(laying.lower);
         }
 
@@ -1715,10 +1787,11 @@ public final class ThreePlates {
                 return;
             }
             offsAreFresh = true;
-            for (int k = 0; k < countFitting(); k++) {
-                fill(fitting[k], laying.below);
-                laying.settleBelow();
-                int up = laying.resting.most;
+            for (int k = 0; k < fittingCount; k++) {
+                fill(fitting[k], laying.above);
+                laying.loadAlone(laying.above);
+                laying.resting.settle();
+                int up = laying.resting.mostGap();
                 int down = laying.resting.den;
                 if (k == 0 || up * offs[1] < offs[0] * down) {
                     offs[0] = up;
