@@ -62,7 +62,7 @@ public final class ThreePlates {
 
     public int shop() {
         tape.open();
-        boolean good = spareShop.readFrom(tape);
+        boolean good = spareShop.readShop(tape);
         tape.length = 0;
         if (!good) {
             return NONE;
@@ -83,7 +83,7 @@ public final class ThreePlates {
             return TOO_LONG;
         }
         tape.open();
-        boolean good = sparePlan.readFrom(tape, shop);
+        boolean good = sparePlan.readPlan(tape, shop);
         tape.length = 0;
         if (!good) {
             return NONE;
@@ -295,7 +295,8 @@ public final class ThreePlates {
         }
         changed();
         for (int cell = 0; cell < shop.cells(); cell++) {
-            int near = Math.min(shop.distance(cell, a), Math.min(shop.distance(cell, b), shop.distance(cell, c)));
+            int near = Math.min(shop.squareOfWay(cell, a), shop.squareOfWay(cell, b));
+            near = Math.min(near, shop.squareOfWay(cell, c));
             bench.sag[plate * MOST_CELLS + cell] = soft * near / 4;
         }
         return true;
@@ -406,7 +407,7 @@ public final class ThreePlates {
         }
     }
 
-    /** What was found out before holds no more. */
+    /** Each call that changes what answers depend on comes by here, since dear answers are kept. */
     private void changed() {
         trials.bestIsFresh = false;
         dots.forgetFitting();
@@ -556,23 +557,14 @@ public final class ThreePlates {
             return true;
         }
 
-        /** A number without a sign into value. */
-        boolean takeNumber(int least, int most) {
-            return takeDigits(1, least, most, start);
-        }
-
-        /** A number with a sign or without one into value. */
-        boolean takeSigned(int least, int most) {
+        /** A number, with a sign if that may be, into value. */
+        boolean takeNumber(boolean signed, int least, int most) {
             int where = start;
             int sign = 1;
-            if (kind == MINUS) {
+            if (signed && kind == MINUS) {
                 sign = -1;
                 step();
             }
-            return takeDigits(sign, least, most, where);
-        }
-
-        private boolean takeDigits(int sign, int least, int most, int where) {
             if (kind != NUMBER) {
                 return refuse();
             }
@@ -674,8 +666,7 @@ public final class ThreePlates {
             return size * size;
         }
 
-        /** The square of how far two cells lie from one another. */
-        int distance(int cell, int other) {
+        int squareOfWay(int cell, int other) {
             int dx = cell % size - other % size;
             int dy = cell / size - other / size;
             return dx * dx + dy * dy;
@@ -699,7 +690,7 @@ public final class ThreePlates {
             slip = other.slip;
         }
 
-        boolean readFrom(Tape tape) {
+        boolean readShop(Tape tape) {
             plates = 0;
             size = FIRST_SIZE;
             red = 0;
@@ -745,7 +736,7 @@ public final class ThreePlates {
         }
 
         private static boolean readSetting(Tape tape, long word, int least, int most) {
-            return tape.takeWord(word) && tape.takeNumber(least, most) && tape.takeStop();
+            return tape.takeWord(word) && tape.takeNumber(false, least, most) && tape.takeStop();
         }
 
         private boolean readPlate(Tape tape) {
@@ -757,7 +748,7 @@ public final class ThreePlates {
             }
             names[plates] = tape.name;
             for (int cell = 0; cell < cells(); cell++) {
-                if (!tape.takeSigned(-99, 99)) {
+                if (!tape.takeNumber(true, -99, 99)) {
                     return false;
                 }
                 heights[plates * MOST_CELLS + cell] = tape.value;
@@ -787,7 +778,7 @@ public final class ThreePlates {
             deep = other.deep;
         }
 
-        boolean readFrom(Tape tape, Shop shop) {
+        boolean readRound(Tape tape, Shop shop) {
             return readPlates(tape, shop) && readPlace(tape) && readScrape(tape, shop);
         }
 
@@ -810,7 +801,7 @@ public final class ThreePlates {
         }
 
         private boolean readPlace(Tape tape) {
-            if (!tape.takeWord(Tape.TURN) || !tape.takeNumber(0, 3)) {
+            if (!tape.takeWord(Tape.TURN) || !tape.takeNumber(false, 0, 3)) {
                 return false;
             }
             turn = tape.value;
@@ -819,11 +810,11 @@ public final class ThreePlates {
             if (!tape.isWord(Tape.BY)) {
                 return true;
             }
-            if (!tape.takeWord(Tape.BY) || !tape.takeSigned(-1, 1)) {
+            if (!tape.takeWord(Tape.BY) || !tape.takeNumber(true, -1, 1)) {
                 return false;
             }
             u = tape.value;
-            if (!tape.takeSigned(-1, 1)) {
+            if (!tape.takeNumber(true, -1, 1)) {
                 return false;
             }
             v = tape.value;
@@ -838,7 +829,7 @@ public final class ThreePlates {
             if (scraped != upper && scraped != lower) {
                 return tape.fail(Tape.FAULT_NO_NAME, tape.namePlace);
             }
-            if (!tape.takeWord(Tape.DEEP) || !tape.takeNumber(1, 9)) {
+            if (!tape.takeWord(Tape.DEEP) || !tape.takeNumber(false, 1, 9)) {
                 return false;
             }
             deep = tape.value;
@@ -873,12 +864,12 @@ public final class ThreePlates {
             count = other.count;
         }
 
-        boolean readFrom(Tape tape, Shop shop) {
+        boolean readPlan(Tape tape, Shop shop) {
             for (count = 0; count < MOST_ROUNDS; count++) {
                 if (tape.isAtEnd()) {
                     return true;
                 }
-                if (!rounds[count].readFrom(tape, shop)) {
+                if (!rounds[count].readRound(tape, shop)) {
                     return false;
                 }
             }
@@ -953,7 +944,6 @@ public final class ThreePlates {
             }
         }
 
-        /** Scrapes one cell: how many strokes that was. */
         int stroke(int plate, int cell, int deep, int slip, int size) {
             int at = plate * MOST_CELLS + cell;
             if (height[at] < LOWEST) {
@@ -1235,7 +1225,7 @@ public final class ThreePlates {
             resting.settle();
         }
 
-        /** Finds the pairs of cells that lie on one another, by the numbers of the lower ones. */
+        /** Pairs come by the numbers of the lower cells, since of like planes the first cells of those count. */
         void match(int turn, int u, int v) {
             Arrays.fill(over, NONE);
             for (int cell = 0; cell < shop.cells(); cell++) {
@@ -1254,7 +1244,6 @@ public final class ThreePlates {
             }
         }
 
-        /** The cell below on which a cell of the upper plate comes to lie. */
         private int spotOf(int cell, int turn, int u, int v) {
             int last = shop.size - 1;
             int x = last - cell % shop.size;
@@ -1326,7 +1315,6 @@ public final class ThreePlates {
             return reds(round.scraped == round.upper ? upper : lower);
         }
 
-        /** Does a round: how many strokes that was. */
         int scrape(Bench bench, Round round) {
             put(bench, round.lower, round.upper, round.turn, round.u, round.v);
             return scrapeCells(bench, round.scraped, redsToScrape(round), round.deep, shop.slip);
@@ -1459,7 +1447,7 @@ public final class ThreePlates {
             }
         }
 
-        /** Whether all plates are flat behind the row that is tried. */
+        /** A plate that the row does not scrape is as it is now, and need not be looked at again. */
         private boolean isRowFlat(Bench on) {
             for (int plate = 0; plate < shop.plates; plate++) {
                 if (!flatNow[plate] && !isScrapedInRow(plate)) {
@@ -1483,7 +1471,6 @@ public final class ThreePlates {
             return false;
         }
 
-        /** The deep by which the scraped plate is least off behind the round. */
         void findDeepest(Round round) {
             laying.put(bench, round.lower, round.upper, round.turn, round.u, round.v);
             int bits = laying.redsToScrape(round);
@@ -1739,7 +1726,6 @@ public final class ThreePlates {
             }
         }
 
-        /** Keeps of the worlds that fit so far those of which a sight would be so. */
         private void sift(int i) {
             laying.match(turns[i], us[i], vs[i]);
             bench.copySeems(plates[i], shop.cells(), laying.below);
@@ -1753,7 +1739,7 @@ public final class ThreePlates {
             fittingCount = left;
         }
 
-        /** The red cells below a world, as laying has been matched. */
+        /** The plate below and how the world lies on it have been put into laying: they serve for many worlds. */
         private int redsOf(int number) {
             fill(number, laying.above);
             laying.loadPairs();
