@@ -68,6 +68,7 @@ public final class PromisesTest {
         rounds();
         slips();
         lowest();
+        lowestSlips();
         offAndFlat();
         warmth();
         hidden();
@@ -466,6 +467,39 @@ public final class PromisesTest {
         due("iron", y.about(4), iron);
     }
 
+    /** A w from which the first of nine draws is below 1 or not, and no other one is. */
+    private static int seedFor(boolean firstSlips) {
+        for (int seed = 0; seed < 1000000; seed++) {
+            int w = seed;
+            boolean good = true;
+            for (int i = 0; i < 9; i++) {
+                w = w * 1103515245 + 12345;
+                good &= (w >>> 16) % 8 < 1 == (firstSlips && i == 0);
+            }
+            if (good) {
+                return seed;
+            }
+        }
+        return 0;
+    }
+
+    // 13: at -999 the first cell slips: the next one gets 1 less, and is then too low for its own stroke
+    private static void lowestSlips() {
+        ThreePlates x = make("slip 1;plate a" + ZEROS + "plate b" + ZEROS, "lay b on a turn 0 scrape a deep 9;");
+        for (int i = 0; i < 111; i++) {
+            x.seed(seedFor(false));
+            x.round(0);
+        }
+        due("height", x.height(0, 1), -999);
+        int iron = x.about(4);
+        x.seed(seedFor(true));
+        due("strokes", x.round(0), 8);
+        due("cell 0", x.height(0, 0), -1009);
+        due("cell 1", x.height(0, 1), -1000);
+        due("cell 2", x.height(0, 2), -1008);
+        due("iron", x.about(4) - iron, 74);
+    }
+
     // 15, 16
     private static void offAndFlat() {
         ThreePlates x = make("plate a 0 0 0 0 3 0 0 0 0;plate b 1 2 3 2 3 4 3 4 5;plate c 0 0 0 0 -7 0 0 0 0;", "");
@@ -572,6 +606,15 @@ public final class PromisesTest {
         int w = y.about(5);
         y.until(0);
         due("w stays", y.about(5), w);
+        // a's dip gets 1 less every second round
+        String idle = "lay d on c turn 0 scrape c deep 1;";
+        String others = "plate b" + ZEROS + "plate c" + ZEROS + "plate d" + ZEROS;
+        ThreePlates z = make("plate a 99 99 99 99 -51 99 99 99 99;" + others, idle + LAY);
+        due("150 less, the last one in round 300", z.until(0), 300);
+        orderOf(z, LAY + idle);
+        due("one round earlier", z.until(0), 299);
+        ThreePlates v = make("plate a 99 99 99 99 -52 99 99 99 99;" + others, LAY + idle);
+        due("round 301 is too late", v.until(0), -1);
     }
 
     // 22, 23
