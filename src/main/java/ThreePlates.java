@@ -954,14 +954,18 @@ public final class ThreePlates {
             // without slip nothing may be drawn
             if (slip > 0 && draw() < slip) {
                 takeFrom(at, 1);
-                if (cell % size < size - 1 && height[at + 1] >= LOWEST) {
+                if (cell % size < size - 1) {
                     takeFrom(at + 1, 1);
                 }
             }
             return 1;
         }
 
+        /** Deep and slips alike: a height can fall too low between them, and gets no less from then on. */
         private void takeFrom(int at, int much) {
+            if (height[at] < LOWEST) {
+                return;
+            }
             height[at] -= much;
             iron += much;
         }

@@ -66,6 +66,9 @@ public final class AgainstPlain {
                 due("order()", real.order(), plain.order());
                 checkFault();
             }
+            if (chance(8) && plain.n == 3) {
+                goLow();
+            }
             int many = pick(20, 60);
             for (int i = 0; i < many && wrong < 20; i++) {
                 step();
@@ -78,6 +81,18 @@ public final class AgainstPlain {
             }
             for (int what = -1; what <= 9; what++) {
                 due("about " + what, real.about(what), plain.about(what));
+            }
+        }
+
+        /** So many rounds that heights come near -999, then one by one, since that is where they stop. */
+        void goLow() {
+            for (int k = 0; k < 3 && chance(80); k++) {
+                due("run", real.run(300), plain.run(300));
+            }
+            for (int i = 0; i < 10; i++) {
+                due("round", real.round(0), plain.round(0));
+                due("iron", real.about(4), plain.about(4));
+                due("w", real.about(5), plain.about(5));
             }
         }
 
@@ -900,8 +915,10 @@ public final class AgainstPlain {
                 }
                 state.w = state.w * 1103515245 + 12345;
                 if ((state.w >>> 16) % 8 < slips) {
-                    h[c]--;
-                    state.iron++;
+                    if (h[c] >= -999) {
+                        h[c]--;
+                        state.iron++;
+                    }
                     if (c % n + 1 < n && h[c + 1] >= -999) {
                         h[c + 1]--;
                         state.iron++;

@@ -69,6 +69,8 @@ public final class PromisesTest {
         slips();
         lowest();
         lowestSlips();
+        lowestDraws();
+        slipBelowLowest();
         offAndFlat();
         warmth();
         hidden();
@@ -483,21 +485,53 @@ public final class PromisesTest {
         return 0;
     }
 
-    // 13: at -999 the first cell slips: the next one gets 1 less, and is then too low for its own stroke
-    private static void lowestSlips() {
+    private static ThreePlates atLowest() {
         ThreePlates x = make("slip 1;plate a" + ZEROS + "plate b" + ZEROS, "lay b on a turn 0 scrape a deep 9;");
         for (int i = 0; i < 111; i++) {
             x.seed(seedFor(false));
             x.round(0);
         }
+        return x;
+    }
+
+    // 13: at -999 the first cell slips when deep has brought it below: it gets no less by that, but the next one
+    // does, and is then too low for its own stroke
+    private static void lowestSlips() {
+        ThreePlates x = atLowest();
         due("height", x.height(0, 1), -999);
         int iron = x.about(4);
         x.seed(seedFor(true));
         due("strokes", x.round(0), 8);
-        due("cell 0", x.height(0, 0), -1009);
+        due("cell 0", x.height(0, 0), -1008);
         due("cell 1", x.height(0, 1), -1000);
         due("cell 2", x.height(0, 2), -1008);
-        due("iron", x.about(4) - iron, 74);
+        due("iron", x.about(4) - iron, 73);
+        due("best by nothing", x.best(1, 999), 0);
+    }
+
+    // 13, 22: each stroke has its draw, one that brings its cell below -999, too
+    private static void lowestDraws() {
+        ThreePlates x = atLowest();
+        x.seed(seedFor(false));
+        int drawn = seedFor(false);
+        for (int i = 0; i < 9; i++) {
+            drawn = drawn * 1103515245 + 12345;
+        }
+        due("strokes", x.round(0), 9);
+        due("w", x.about(5), drawn);
+    }
+
+    // 13, 14, 22: -991 and deep 9 make -1000, which its slip leaves as it is
+    private static void slipBelowLowest() {
+        ThreePlates x = make("red 20;slip 8;plate a" + ZEROS + "plate b 99 99 99 99 99 99 99 99 99;",
+            "lay a on b turn 0 scrape b deep 9;");
+        due("run 109", x.run(109), 930);
+        due("height", x.height(1, 0), -991);
+        int iron = x.about(4);
+        due("best", x.best(1, 999), 27);
+        due("round", x.round(0), 3);
+        due("height", x.height(1, 0), -1000);
+        due("iron", x.about(4) - iron, 27);
     }
 
     // 15, 16
