@@ -66,7 +66,7 @@ public final class AgainstPlain {
                 due("order()", real.order(), plain.order());
                 checkFault();
             }
-            if (chance(8) && plain.n == 3) {
+            if (chance(4)) {
                 goLow();
             }
             int many = pick(20, 60);
@@ -86,14 +86,24 @@ public final class AgainstPlain {
 
         /** So many rounds that heights come near -999, then one by one, since that is where they stop. */
         void goLow() {
-            for (int k = 0; k < 3 && chance(80); k++) {
-                due("run", real.run(300), plain.run(300));
-            }
-            for (int i = 0; i < 10; i++) {
+            feedText("red " + pick(10, 20) + ";slip " + pick(1, 8) + ";plate a" + lowHeights() + "plate b" + lowHeights());
+            due("shop", real.shop(), plain.shop());
+            feedText("lay a on b turn " + pick(0, 3) + " scrape " + (chance(50) ? "a" : "b") + " deep " + pick(7, 9) + ";");
+            due("order", real.order(), plain.order());
+            due("run", real.run(100), plain.run(100));
+            for (int i = 0; i < 60; i++) {
                 due("round", real.round(0), plain.round(0));
                 due("iron", real.about(4), plain.about(4));
                 due("w", real.about(5), plain.about(5));
             }
+        }
+
+        String lowHeights() {
+            StringBuilder text = new StringBuilder();
+            for (int i = 0; i < 9; i++) {
+                text.append(" ").append(v(pick(-99, -90)));
+            }
+            return text.append(";").toString();
         }
 
         void checkFault() {
