@@ -1,58 +1,5 @@
-import java.util.Arrays;
-
 /** Each promise of the document, with answers worked out by hand: ordinary inputs, edges, wrong inputs. */
-public final class PromisesTest {
-    private static final String ZEROS = " 0 0 0 0 0 0 0 0 0;";
-    private static final String LAY = "lay b on a turn 0 scrape a deep 1;";
-    private static int wrong = 0;
-    private static int checks = 0;
-
-    private static void due(String call, long got, long want) {
-        checks++;
-        if (got != want) {
-            wrong++;
-            System.out.println(call + " answered " + got + ", due is " + want);
-        }
-    }
-
-    private static void due(String call, boolean got, boolean want) {
-        due(call, got ? 1 : 0, want ? 1 : 0);
-    }
-
-    private static void feedText(ThreePlates x, String text) {
-        int whole = (text.length() + 19) / 20 * 20;
-        byte[] bytes = new byte[whole];
-        Arrays.fill(bytes, (byte) '!');
-        for (int i = 0; i < text.length(); i++) {
-            bytes[i] = (byte) text.charAt(i);
-        }
-        for (int i = 0; i < whole; i += 20) {
-            int[] five = new int[5];
-            for (int k = 0; k < 20; k++) {
-                five[k / 4] = five[k / 4] << 8 | bytes[i + k] & 255;
-            }
-            due("feed", x.feed(five[0], five[1], five[2], five[3], five[4]), i + 20);
-        }
-        due("end", x.end(text.length()), text.length());
-    }
-
-    private static int shopOf(ThreePlates x, String text) {
-        feedText(x, text);
-        return x.shop();
-    }
-
-    private static int orderOf(ThreePlates x, String text) {
-        feedText(x, text);
-        return x.order();
-    }
-
-    private static ThreePlates make(String shop, String order) {
-        ThreePlates x = new ThreePlates();
-        due(shop, shopOf(x, shop) >= 0, true);
-        due(order, orderOf(x, order) >= 0, true);
-        return x;
-    }
-
+public final class PromisesTest extends Checks {
     public static void main(String[] args) {
         newObject();
         feedAndEnd();
@@ -86,10 +33,7 @@ public final class PromisesTest {
         sights();
         spent();
         boxes();
-        System.out.println(checks + " checks, " + wrong + " wrong");
-        if (wrong != 0) {
-            System.exit(1);
-        }
+        finish();
     }
 
     // 1, 6, 41
