@@ -6,6 +6,7 @@ abstract class Checks {
     static final String TWO = "plate a" + ZEROS + "plate b" + ZEROS;
     static final String FOUR = TWO + "plate c" + ZEROS + "plate d" + ZEROS;
     static final String LAY = "lay b on a turn 0 scrape a deep 1;";
+    static final String[] KEYWORDS = {"size", "plate", "red", "slip", "lay", "on", "turn", "by", "scrape", "deep"};
     private static int checks = 0;
     private static int wrong = 0;
     private static String where = "";
@@ -77,6 +78,15 @@ abstract class Checks {
     /** Heights of a plate of so many cells that are all alike. */
     static String all(int height, int cells) {
         return (" " + height).repeat(cells) + ";";
+    }
+
+    /** A shop of so many plates of that size, all flat. */
+    static String plates(int size, int count) {
+        StringBuilder text = new StringBuilder("size " + size + ";");
+        for (int plate = 0; plate < count; plate++) {
+            text.append("plate ").append("abcd".charAt(plate)).append(all(0, size * size));
+        }
+        return text.toString();
     }
 
     /** All that can be asked about at once, held against what it is due to be. */

@@ -47,7 +47,9 @@ final class HandBoundaries extends Checks {
         due("a", x.square(0, 1, 0, 0, 0), -1);
         due("a, lower part", x.square(0, 1, 0, 0, 1), 2);
         due("b", x.square(0, 1, 0, 1, 0), 1);
+        due("b, lower part", x.square(0, 1, 0, 1, 1), 2);
         due("c", x.square(0, 1, 0, 2, 0), 1);
+        due("c, lower part", x.square(0, 1, 0, 2, 1), 2);
         due("a", x.square(0, 2, 0, 0, 0), -1);
         due("a, lower part", x.square(0, 2, 0, 0, 1), 1);
         due("own two that make up none", x.square(5, 0, -5, 0, 0), 0);

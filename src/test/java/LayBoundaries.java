@@ -232,6 +232,22 @@ final class LayBoundaries extends Checks {
     }
 
     @Says("AIR: all their GAPS together.")
+    static void promise11AirOverEachCell() {
+        for (int dip = 0; dip < 9; dip++) {
+            StringBuilder heights = new StringBuilder();
+            for (int cell = 0; cell < 9; cell++) {
+                heights.append(cell == dip ? " -99" : " 0");
+            }
+            ThreePlates x = make("plate a" + heights + ";plate b" + ZEROS, "");
+            due("air", x.air(0, 1, 0, 0, 0, 0), 99);
+            due("reds", x.lay(0, 1, 0, 0, 0, 0), 8);
+            for (int cell = 0; cell < 9; cell++) {
+                due("gap", x.gap(0, 1, 0, 0, 0, cell, 0), cell == dip ? 99 : 0);
+            }
+        }
+    }
+
+    @Says("AIR: all their GAPS together.")
     static void promise11AirOfNothingAndOfFractions() {
         ThreePlates x = make(TWO, "");
         due("none", x.air(0, 1, 0, 0, 0, 0), 0);

@@ -1,6 +1,5 @@
 /** The boundaries of the order's text: promise 5. */
 final class OrderBoundaries extends Checks {
-    private static final String[] KEYWORDS = {"size", "plate", "red", "slip", "lay", "on", "turn", "by", "scrape", "deep"};
     private static final String TEN = LAY.repeat(10);
 
     private OrderBoundaries() {
@@ -115,6 +114,16 @@ final class OrderBoundaries extends Checks {
         for (int turn = 0; turn <= 3; turn++) {
             good("lay b on a turn " + turn + " scrape a deep 1;", 1);
         }
+        // b's first corner is low: turned, it comes over another corner of a, which is then not scraped
+        int[] low = {2, 8, 6, 0};
+        for (int turn = 0; turn <= 3; turn++) {
+            ThreePlates x = make("plate a" + ZEROS + "plate b -5 0 0 0 0 0 0 0 0;",
+                "lay b on a turn " + turn + " scrape a deep 1;");
+            due("round", x.round(0), 8);
+            for (int cell = 0; cell < 9; cell++) {
+                due("turn " + turn + ", cell " + cell, x.height(0, cell), cell == low[turn] ? 0 : -1);
+            }
+        }
         bad("lay b on a turn ^4 scrape a deep 1;", 4);
         bad("lay b on a turn ^9999 scrape", 4);
         bad("lay b on a turn ^-0 scrape", 2);
@@ -132,7 +141,12 @@ final class OrderBoundaries extends Checks {
             }
         }
         due("not told", good(LAY, 1).round(0), 9);
-        due("not that of the round before", good("lay b on a turn 0 by 1 1 scrape a deep 1;" + LAY, 2).round(1), 9);
+        ThreePlates again = good("lay b on a turn 0 by 1 1 scrape a deep 1;" + LAY, 2);
+        due("not that of the round before", again.round(1), 9);
+        for (int i = 0; i < 2; i++) {
+            due("another order", orderOf(again, LAY), 1);
+            due("not that of the order before", again.round(0), 9);
+        }
         bad("lay b on a turn 0 by ^2 0 scrape", 4);
         bad("lay b on a turn 0 by ^-2 0 scrape", 4);
         bad("lay b on a turn 0 by 0 ^2 scrape", 4);

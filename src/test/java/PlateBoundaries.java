@@ -233,7 +233,8 @@ final class PlateBoundaries extends Checks {
         }
     }
 
-    @Says("the greatest GAP of a line that rests on it as above (by two CELLS, lowest over its middle; of like ones the first two).")
+    @Says("the greatest GAP of a line that rests on it as above (by two CELLS, lowest over its middle; "
+        + "of like ones the first two).")
     static void promise25EdgeOfLikeLines() {
         // through cells 0, 2 and through 2, 4 both are as low over cell 2; the greatest gaps are 7 and 15/2
         ThreePlates x = make("size 5;plate a 3 0 5 0 0 0 0 5 0 3" + " 0".repeat(15) + ";", "");

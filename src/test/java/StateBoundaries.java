@@ -133,11 +133,7 @@ final class StateBoundaries extends Checks {
     @Says("What 0: PLATES, 1: N, 2: ROUNDS, 3: STROKES, 4: IRON, 5: w, 6: bytes on the TAPE, 7: cuts, 8: SIGHTS.")
     static void promise41AboutFromNoneToTheMost() {
         dueAbout("of a new object", new ThreePlates(), 0, 3, 0, 0, 0, 1, 0, 0, 0);
-        String shop = "size 5;";
-        for (char name = 'a'; name <= 'd'; name++) {
-            shop += "plate " + name + all(0, 25);
-        }
-        ThreePlates x = make(shop, LAY.repeat(10));
+        ThreePlates x = make(plates(5, 4), LAY.repeat(10));
         for (int i = 0; i < 40; i++) {
             x.cut(1, 1);
         }

@@ -2,8 +2,6 @@ import java.util.Arrays;
 
 /** The boundaries of a new object, of the tape, and of the shop's text: promises 1 to 4, and 6. */
 final class TextBoundaries extends Checks {
-    private static final String[] KEYWORDS = {"size", "plate", "red", "slip", "lay", "on", "turn", "by", "scrape", "deep"};
-
     private TextBoundaries() {
     }
 
@@ -139,6 +137,21 @@ final class TextBoundaries extends Checks {
         due("bytes", x.about(6), 0);
         due("an empty text", x.shop(), 0);
         due("no fault", x.fault(0), 0);
+    }
+
+    @Says("The TAPE has its first n bytes: n")
+    static void promise03EndCutsThroughAToken() {
+        String[] texts = {"red 12;", "red 1a;", "plate ab", "red 1;", "size 3;;"};
+        int[] ends = {5, 5, 7, 5, 7};
+        int[] faults = {2, 2, 2, 2, 0};
+        for (int i = 0; i < texts.length; i++) {
+            ThreePlates x = new ThreePlates();
+            feedText(x, texts[i]);
+            due("end", x.end(ends[i]), ends[i]);
+            due("shop of " + texts[i], x.shop(), faults[i] == 0 ? 0 : -1);
+            due("fault", x.fault(0), faults[i]);
+            due("at the end", x.fault(1), faults[i] == 0 ? -1 : ends[i]);
+        }
     }
 
     @Says("A SHOP is a text of at most 1,200 bytes (empty at first)")
@@ -314,6 +327,16 @@ final class TextBoundaries extends Checks {
         bad("red 1;slip 1;^red", 2);
         bad("red^;", 2);
         bad("slip 1 ^1;", 2);
+    }
+
+    @Says({"once, ahead of all plates", "each once."})
+    static void promise04ShopTellsAgainWhatTheShopBeforeTold() {
+        ThreePlates x = good("size 4;red 1;slip 1;", 0);
+        due("another shop", shopOf(x, "slip 2;red 2;size 5;"), 0);
+        due("N", x.about(1), 5);
+        due("a fault behind all three", shopOf(x, "size 3;red 3;slip 3;!"), -1);
+        due("another shop", shopOf(x, "red 4;size 4;slip 4;"), 0);
+        due("N", x.about(1), 4);
     }
 
     @Says("red (0 .. 20; 0 if not told), slip (0 .. 8; 0): each once.")

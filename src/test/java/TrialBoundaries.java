@@ -10,14 +10,6 @@ final class TrialBoundaries extends Checks {
         return "plate a 0 0 0 0 " + -deep + " 0 0 0 0;plate b" + ZEROS;
     }
 
-    private static String plates(int size, int count) {
-        StringBuilder text = new StringBuilder("size " + size + ";");
-        for (int plate = 0; plate < count; plate++) {
-            text.append("plate ").append("abcd".charAt(plate)).append(all(0, size * size));
-        }
-        return text.toString();
-    }
-
     @Says("how many of these numbers are free (their number less the rank of all that must hold, "
         + "reckoned modulo 1000003), less 3 for each PLATE.")
     static void promise19HiddenWithoutRoundsOrPlates() {
@@ -145,7 +137,8 @@ final class TrialBoundaries extends Checks {
         }
     }
 
-    @Says({"BEST of m ROUNDS (1 .. 3) for n", "BEST of m ROUNDS for n: the IRON; NONE if none is, without ROUNDS, or one can't be."})
+    @Says({"BEST of m ROUNDS (1 .. 3) for n",
+        "BEST of m ROUNDS for n: the IRON; NONE if none is, without ROUNDS, or one can't be."})
     static void promise22BestRefused() {
         ThreePlates x = make(TWO, LAY);
         for (int m : new int[] {0, 4, -1, Integer.MIN_VALUE, Integer.MAX_VALUE}) {
@@ -188,6 +181,74 @@ final class TrialBoundaries extends Checks {
         due("two", x.best(2, 0), 24);
         due("the second one first", x.bestRound(2, 0, 0), 1);
         due("then the last one", x.bestRound(2, 0, 1), 2);
+    }
+
+    @Says("that with the least IRON")
+    static void promise22BestIsNotTheLastThatWillDo() {
+        ThreePlates x = make(dip(2), LAY + "lay b on a turn 0 scrape a deep 2;lay b on a turn 0 scrape a deep 3;");
+        due("8, 16 or 24", x.best(1, 2), 8);
+        due("the first", x.bestRound(1, 2, 0), 0);
+        due("for 0", x.best(1, 0), 16);
+        due("the second", x.bestRound(1, 0, 0), 1);
+    }
+
+    @Says("after which all are FLAT by n")
+    static void promise22BestNeedsAllPlatesFlat() {
+        // the rounds leave one of four as it is, whichever it is
+        for (int plate = 0; plate < 4; plate++) {
+            String name = "" + "abcd".charAt(plate);
+            String others = "abcd".replace(name, "");
+            String order = "lay " + others.charAt(0) + " on " + others.charAt(1) + " turn 0 scrape " + others.charAt(0)
+                + " deep 1;lay " + others.charAt(1) + " on " + others.charAt(2) + " turn 0 scrape " + others.charAt(1)
+                + " deep 1;";
+            ThreePlates x = make(FOUR.replace("plate " + name + ZEROS, "plate " + name + " 0 0 0 0 -7 0 0 0 0;"), order);
+            for (int m = 1; m <= 3; m++) {
+                due("by 6", x.best(m, 6), -1);
+                due("by 7", x.best(m, 7), 9 * m);
+            }
+            due("until 6", x.until(6), -1);
+            due("until 7", x.until(7), 0);
+        }
+    }
+
+    @Says("BEST of m ROUNDS for n: the IRON")
+    static void promise22BestIsFoundAnew() {
+        ThreePlates x = make(dip(2), LAY);
+        due("eight", x.best(1, 1), 8);
+        due("another order", orderOf(x, "lay b on a turn 0 scrape a deep 2;"), 1);
+        due("sixteen", x.best(1, 1), 16);
+        due("image", x.image(0), 2);
+        due("round", x.round(0), 8);
+        due("flat now: eighteen", x.best(1, 1), 18);
+        due("back", x.back(0), 2);
+        due("sixteen", x.best(1, 1), 16);
+        due("run", x.run(1), 8);
+        due("eighteen", x.best(1, 1), 18);
+        due("warm", x.warm(1, 0, 1), true);
+        // b's corner lies over cell 2: a plane through it touches some of a alone
+        due("fewer are red", x.best(1, 999) < 18, true);
+        due("rest", x.rest(1), true);
+        due("eighteen", x.best(1, 999), 18);
+        due("stand", x.stand(1, 1, 3, 5, 2), true);
+        due("fewer are red", x.best(1, 999) < 18, true);
+        due("stand", x.stand(1, 1, 3, 5, 0), true);
+        due("eighteen", x.best(1, 999), 18);
+        due("another shop", shopOf(x, TWO), 2);
+        due("no rounds", x.best(1, 999), -1);
+        due("order", orderOf(x, LAY), 1);
+        due("nine", x.best(1, 999), 9);
+    }
+
+    @Says("BEST of m ROUNDS for n: the IRON")
+    static void promise22BestIsFoundAnewFromAnotherW() {
+        ThreePlates x = make("slip 1;" + TWO, LAY);
+        for (int seed = 0; seed < 40; seed++) {
+            ThreePlates y = make("slip 1;" + TWO, LAY);
+            y.seed(seed);
+            due("round", y.round(0), 9);
+            x.seed(seed);
+            due("what the round takes", x.best(1, 999), y.about(4));
+        }
     }
 
     @Says("that with the least IRON")
@@ -257,6 +318,12 @@ final class TrialBoundaries extends Checks {
             due("flat then", x.deepest(0, 1), 0);
             due("flat then, lower part", x.deepest(0, 2), 1);
             due("nothing drawn", x.about(5), 1);
+        }
+        for (int seed = 0; seed < 40; seed++) {
+            ThreePlates y = make("slip 1;" + dip(3), LAY);
+            y.seed(seed);
+            due("without slips, whatever w is", y.deepest(0, 0), 3);
+            due("flat then", y.deepest(0, 1), 0);
         }
         ThreePlates x = make(dip(20), LAY);
         due("9 is the most", x.deepest(0, 0), 9);

@@ -8,11 +8,7 @@ final class WorldBoundaries extends Checks {
     }
 
     private static ThreePlates ofSize(int size, int count) {
-        StringBuilder text = new StringBuilder("size " + size + ";");
-        for (int plate = 0; plate < count; plate++) {
-            text.append("plate ").append("abcd".charAt(plate)).append(all(0, size * size));
-        }
-        return make(text.toString(), "");
+        return make(plates(size, count), "");
     }
 
     @Says("A SIGHT: its number; NONE, doing nothing, if one can't be (reds is not 0 .. all CELLS), or there are 20.")
@@ -115,6 +111,22 @@ final class WorldBoundaries extends Checks {
         }
     }
 
+    @Says("it was laid on a PLATE (as that SEEMS when it is asked), turned and shifted")
+    static void promise34WorldsByPlateTurnAndShift() {
+        // d's middle row is 4 low: a world with r -1 makes it flat, or p -1 a quarter turned
+        String plates = "plate a" + ZEROS + "plate b" + ZEROS + "plate c" + ZEROS + "plate d 0 0 0 -4 -4 -4 0 0 0;";
+        ThreePlates x = make(plates, "");
+        x.sight(3, 0, 0, 0, ALL_RED);
+        dueWorlds("r -1", x, 147 + 21 + 2);
+        ThreePlates turned = make(plates, "");
+        turned.sight(3, 1, 0, 0, ALL_RED);
+        dueWorlds("p -1", turned, 98 + 21 + 3);
+        // by 0 -1 rows 1 and 2 of the world lie over 0 and 1 of a: a plane if p and q are none, whatever r is
+        ThreePlates shifted = make(plates, "");
+        shifted.sight(0, 0, 0, -1, 0b000111111);
+        dueWorlds("r is free", shifted, 168, 169, 170, 171, 172, 173, 174);
+    }
+
     @Says("and those CELLS of that one were RED (as bits, CELL c: 1 << c)")
     static void promise34WorldsOfCellsThatDoNotLie() {
         ThreePlates x = ofSize(3, 1);
@@ -213,6 +225,20 @@ final class WorldBoundaries extends Checks {
         due("least", x.known(false, 0), 4);
         due("most", x.known(true, 0), 12);
         due("most, lower part", x.known(true, 1), 1);
+        ThreePlates r = ofSize(3, 1);
+        r.sight(0, 0, 0, 0, 0b111000111);
+        due("rows, least", r.known(false, 0), 4);
+        due("rows, most", r.known(true, 0), 12);
+        ThreePlates q = ofSize(3, 1);
+        // q 1, 2, 3: cells 0 and 8 are 4 q, 2 and 6 are -4 q; through 0, 1, 2 the plane is 8 q above 4 q over cell 6
+        q.sight(0, 0, 0, 0, 0b001001111);
+        due("twisted, least", q.known(false, 0), 16);
+        due("twisted, most", q.known(true, 0), 48);
+        // four by four: 9 p, p, p, 9 p
+        ThreePlates four = ofSize(4, 1);
+        four.sight(0, 0, 0, 0, 0b1001100110011001);
+        due("four by four, least", four.known(false, 0), 8);
+        due("four by four, most", four.known(true, 0), 24);
         ThreePlates y = ofSize(3, 1);
         y.sight(0, 0, 0, 0, ALL_RED);
         due("the flat one alone", y.known(true, 0), 0);
@@ -248,6 +274,17 @@ final class WorldBoundaries extends Checks {
         due("one set", x.ask(2), 1);
     }
 
+    @Says("ASK: of all PLATES and turns (0, 0)")
+    static void promise37AskOfAnotherTurn() {
+        // p 1, 2, 3 fit: a quarter turned, their high rows lie beside b's high row: lower, alike, higher than that;
+        // not turned, they lie across it and look alike
+        ThreePlates x = make("plate a" + ZEROS + "plate b 0 0 0 8 8 8 0 0 0;", "");
+        x.sight(0, 0, 0, 0, ENDS);
+        due("b", x.ask(0), 1);
+        due("a quarter, ahead of three", x.ask(1), 1);
+        due("three sets", x.ask(2), 3);
+    }
+
     @Says("that by which most unlike sets of RED CELLS come of those that FIT")
     static void promise37AskOfTheLastPlate() {
         // p 1, 2, 3 fit: on a top of 8 in the middle of d they look unlike, on flat ones alike
@@ -258,5 +295,10 @@ final class WorldBoundaries extends Checks {
         due("its first turn", x.ask(1), 0);
         // 4 p at the ends, 8 in the middle: p 1 has a top, p 2 lies flat where it is 8, p 3 a dip
         due("three sets", x.ask(2), 3);
+        // p 2 on d is red at the ends and in the middle
+        x.sight(3, 0, 0, 0, ENDS | 1 << 4);
+        due("one fits", x.world(0), 49 * 5 + 24);
+        due("one set", x.ask(2), 1);
+        due("of like ones the first plate", x.ask(0), 0);
     }
 }
